@@ -36,6 +36,7 @@ public final class BeginTest {
         RaidVault vault = new RaidVault();
         Layout.grow(vault, 4, 0, 30);
         Layout.grow(vault, 31, 0, 20);
+        vault.write(6, 0, 6L);
         vault.snapshot(0);
         vault.cut(4, 9);
         vault.snapshot(4);
@@ -58,6 +59,9 @@ public final class BeginTest {
         vault.begin();
         isNew(expect, "behind begin() of what was BROKEN", vault);
         expect.goes("fail behind begin()", () -> vault.fail(1));
+        vault.begin();
+        expect.state("replace behind begin() of what FAILED", vault::replace);
+        expect.state("rebuild behind begin() of what FAILED", () -> vault.rebuild(1));
     }
 
     private static void apart(Expect expect) {

@@ -9,6 +9,7 @@ public final class CrashTest {
         logStays(expect);
         logGoes(expect);
         nothingToWrite(expect);
+        unchangedFiles(expect);
         redoneInOrder(expect);
         oldStateStays(expect);
         whenBroken(expect);
@@ -57,7 +58,7 @@ public final class CrashTest {
         expect.same("entries", vault.count(2), 5);
         expect.same("FILES", vault.count(7), 2);
         expect.answers("size", 41, () -> vault.size(-1, 3));
-        expect.answers("octet before the cut", (int) (Layout.value(3, 4) >>> 56) & 255, () -> vault.octet(-1, 3, 32));
+        expect.answers("octet before the cut", Layout.octet(3, 32), () -> vault.octet(-1, 3, 32));
         expect.answers("octet behind the cut", 255, () -> vault.octet(-1, 3, 40));
         expect.answers("FILE 4", -1, () -> vault.size(-1, 4));
         expect.answers("a POINT has it all", 2, vault::point);
@@ -95,6 +96,24 @@ public final class CrashTest {
         Layout.counts(expect, "behind two POINTS", vault, 2, 599, 0, 2, -1, 150, 0, 0);
     }
 
+    private static void unchangedFiles(Expect expect) {
+        RaidVault vault = new RaidVault();
+        Layout.grow(vault, 1, 0, 6);
+        vault.write(2, 0, 2L);
+        vault.point();
+        crash(expect, vault, 0, false, false);
+        vault.write(2, 0, 5L);
+        vault.point();
+        crash(expect, vault, 0, false, false);
+        vault.write(1, 40, 4L);
+        vault.point();
+        crash(expect, vault, 0, false, false);
+        expect.answers("a FILE beside the one that was changed", 48, () -> vault.size(-1, 1));
+        expect.answers("a PIECE that was not written", Layout.octet(1, 7), () -> vault.octet(-1, 1, 7));
+        expect.answers("a PIECE that was written", 4, () -> vault.octet(-1, 1, 47));
+        expect.answers("the FILE that was changed", 5, () -> vault.octet(-1, 2, 7));
+    }
+
     private static void redoneInOrder(Expect expect) {
         RaidVault vault = new RaidVault();
         for (int i = 0; i < 40; i++) {
@@ -126,7 +145,7 @@ public final class CrashTest {
             vault.write(17, 0, -1L);
             crash(expect, vault, n, false, false);
             for (int at = 0; at < 80; at++) {
-                int due = (int) (Layout.value(0, at / 8) >>> (56 - 8 * (at % 8))) & 255;
+                int due = Layout.octet(0, at);
                 expect.same("octet of the SNAPSHOT", vault.octet(0, 0, at), due);
                 if (at < 64) {
                     expect.same("octet of the POINT", vault.octet(-1, 0, at), due);

@@ -89,8 +89,7 @@ public final class DiskTest {
     private static void look(Expect expect, String when, RaidVault vault, int k, int file, int words) {
         expect.same("size " + when, vault.size(k, file), 8 * words);
         for (int at = 0; at < 8 * words; at++) {
-            int due = (int) (Layout.value(file, at / 8) >>> (56 - 8 * (at % 8))) & 255;
-            expect.same("octet " + at + " " + when, vault.octet(k, file, at), due);
+            expect.same("octet " + at + " " + when, vault.octet(k, file, at), Layout.octet(file, at));
         }
     }
 
@@ -135,7 +134,7 @@ public final class DiskTest {
         }
         vault.fail(disk);
         vault.replace();
-        vault.rebuild(2);
+        vault.rebuild(4);
         for (RaidVault one : both) {
             Layout.grow(one, 1, 0, 40);
             one.point();
@@ -148,13 +147,13 @@ public final class DiskTest {
         }
         for (int block = 0; block < 10; block++) {
             for (int word = 0; word < 4; word++) {
-                long due = block < 2 ? sound.block(disk, block, word) : 0L;
+                long due = block < 4 ? sound.block(disk, block, word) : 0L;
                 expect.same("BLOCK " + block + " of DISK " + disk, vault.block(disk, block, word), due);
             }
         }
         vault.crash(0, false);
         look(expect, "while REBUILT", vault, -1, 1, 40);
-        vault.rebuild(3);
+        vault.rebuild(1);
         expect.same("BLOCK 4 is REBUILT", vault.block(disk, 4, 1), sound.block(disk, 4, 1));
         expect.same("BLOCK 5 is not", vault.block(disk, 5, 1), 0);
         vault.rebuild(145);

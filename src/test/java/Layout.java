@@ -59,6 +59,11 @@ final class Layout {
         return 0x0102030405060708L * (i + 1) + 1000L * file;
     }
 
+    /** An octet of a FILE as grow() makes it. */
+    static int octet(int file, int at) {
+        return (int) (value(file, at / 8) >>> (56 - 8 * (at % 8))) & 255;
+    }
+
     /**
      * 32 FILES of two PIECES in six versions that share no PLACE: the MAP's and five SNAPSHOTS', of 98
      * PLACES each. 358 calls; 11 PLACES are FREE behind it.
