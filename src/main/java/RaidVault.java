@@ -437,6 +437,7 @@ public final class RaidVault {
                     words[PARITY_DISK * DISK_WORDS + offset] = parity;
                 }
             }
+            // WRITINGS are those of PLACES: neither PARITY nor what a rebuild writes counts.
             writings++;
         }
 
