@@ -10,29 +10,34 @@ final class Expect {
         void run();
     }
 
-    private static final Class<?> ARGUMENT = IllegalArgumentException.class;
-    private static final Class<?> STATE = IllegalStateException.class;
-    private static final Class<?> FULL = UnsupportedOperationException.class;
-    private static final Class<?> OUTSIDE = IndexOutOfBoundsException.class;
+    static final Class<?> ARGUMENT = IllegalArgumentException.class;
+    static final Class<?> STATE = IllegalStateException.class;
+    static final Class<?> FULL = UnsupportedOperationException.class;
+    static final Class<?> OUTSIDE = IndexOutOfBoundsException.class;
 
+    private String test = "";
     private int looked;
     private int wrong;
 
+    /** What is wrong from here on is told with the name of this test. */
+    void start(String name) {
+        test = name + ": ";
+    }
+
     void same(String what, long got, long want) {
+        same(what, Long.toString(got), Long.toString(want));
+    }
+
+    void same(String what, String got, String want) {
         looked++;
-        if (got != want) {
+        if (!got.equals(want)) {
             wrong++;
-            System.out.println(what + " is " + got + ", due is " + want);
+            System.out.println(test + what + " gave " + got + ", due is " + want);
         }
     }
 
     void answers(String what, long want, Call call) {
-        looked++;
-        String got = outcome(call);
-        if (!got.equals(Long.toString(want))) {
-            wrong++;
-            System.out.println(what + " gave " + got + ", due is " + want);
-        }
+        same(what, outcome(call), Long.toString(want));
     }
 
     void goes(String what, Deed deed) {
@@ -40,31 +45,31 @@ final class Expect {
     }
 
     void argument(String what, Call call) {
-        refused(what, ARGUMENT, call);
+        same(what, outcome(call), ARGUMENT.getName());
     }
 
     void argument(String what, Deed deed) {
-        refused(what, ARGUMENT, asCall(deed));
+        argument(what, asCall(deed));
     }
 
     void state(String what, Call call) {
-        refused(what, STATE, call);
+        same(what, outcome(call), STATE.getName());
     }
 
     void state(String what, Deed deed) {
-        refused(what, STATE, asCall(deed));
+        state(what, asCall(deed));
     }
 
     void full(String what, Call call) {
-        refused(what, FULL, call);
+        same(what, outcome(call), FULL.getName());
     }
 
     void full(String what, Deed deed) {
-        refused(what, FULL, asCall(deed));
+        full(what, asCall(deed));
     }
 
     void outside(String what, Call call) {
-        refused(what, OUTSIDE, call);
+        same(what, outcome(call), OUTSIDE.getName());
     }
 
     /** The answer as a text, or the exact class of what was thrown. */
@@ -87,15 +92,6 @@ final class Expect {
         System.out.println(wrong == 0 ? looked + " answers are as due" : wrong + " of " + looked + " answers are not as due");
         if (wrong != 0) {
             System.exit(1);
-        }
-    }
-
-    private void refused(String what, Class<?> type, Call call) {
-        looked++;
-        String got = outcome(call);
-        if (!got.equals(type.getName())) {
-            wrong++;
-            System.out.println(what + " gave " + got + ", due is " + type.getName());
         }
     }
 }

@@ -1,4 +1,4 @@
-/** Reads what stands at a PLACE through block(), and brings a vault to states that many tests need. */
+/** Looks at what stands on the DISKS, and at the FILES, in ways that many tests need. */
 final class Layout {
     private Layout() {
     }
@@ -9,6 +9,12 @@ final class Layout {
 
     static int number(RaidVault vault, int place, int i) {
         return (int) (word(vault, place, i / 4) >>> (48 - 16 * (i % 4))) & 0xFFFF;
+    }
+
+    /** The PLACE of a FILE's INODE by what stands: 0 if it is none. */
+    static int inode(RaidVault vault, int file) {
+        int half = number(vault, 0, 2 + file / 16);
+        return half == 0 ? 0 : number(vault, half, file % 16);
     }
 
     /** Looks at all 16 numbers at a PLACE; those that are not told are due to be 0. */
@@ -32,20 +38,33 @@ final class Layout {
         }
     }
 
-    /** Whether PARITY is right in every STRIPE; only with all DISKS SOUND. */
-    static void parity(Expect expect, String when, RaidVault vault) {
-        for (int stripe = 0; stripe < 150; stripe++) {
-            for (int word = 0; word < 4; word++) {
-                long sum = 0;
-                for (int disk = 0; disk < 5; disk++) {
-                    sum ^= vault.block(disk, stripe, word);
-                }
-                if (sum != 0) {
-                    expect.same("PARITY of STRIPE " + stripe + " " + when, sum, 0);
-                }
+    /** Whether PARITY is right in a STRIPE; only where all DISKS can be used. */
+    static void parity(Expect expect, RaidVault vault, int stripe) {
+        for (int word = 0; word < 4; word++) {
+            long sum = 0;
+            for (int disk = 0; disk < 4; disk++) {
+                sum ^= vault.block(disk, stripe, word);
             }
+            expect.same("PARITY of STRIPE " + stripe, vault.block(4, stripe, word), sum);
         }
-        expect.same("PARITY was looked at", 1, 1);
+    }
+
+    /** Looks at all octets of a FILE as it is now, and at the one that there is not. */
+    static void octets(Expect expect, RaidVault vault, int file, int... want) {
+        expect.answers("size of FILE " + file, want.length, () -> vault.size(-1, file));
+        for (int i = 0; i < want.length; i++) {
+            int at = i;
+            expect.answers("octet " + at + " of FILE " + file, want[i], () -> vault.octet(-1, file, at));
+        }
+        expect.outside("octet behind FILE " + file, () -> vault.octet(-1, file, want.length));
+    }
+
+    /** Looks at a FILE that grow() has made. */
+    static void grown(Expect expect, RaidVault vault, int k, int file, int words) {
+        expect.same("size of FILE " + file, vault.size(k, file), 8 * words);
+        for (int at = 0; at < 8 * words; at++) {
+            expect.same("octet " + at + " of FILE " + file, vault.octet(k, file, at), octet(file, at));
+        }
     }
 
     /** Puts octets 8 * from up to 8 * to into a FILE, each word a different value. */
@@ -62,37 +81,5 @@ final class Layout {
     /** An octet of a FILE as grow() makes it. */
     static int octet(int file, int at) {
         return (int) (value(file, at / 8) >>> (56 - 8 * (at % 8))) & 255;
-    }
-
-    /**
-     * 32 FILES of two PIECES in six versions that share no PLACE: the MAP's and five SNAPSHOTS', of 98
-     * PLACES each. 358 calls; 11 PLACES are FREE behind it.
-     */
-    static RaidVault nearlyFull() {
-        RaidVault vault = new RaidVault();
-        for (int file = 0; file < 32; file++) {
-            grow(vault, file, 0, 5);
-        }
-        for (int version = 0; version < 6; version++) {
-            for (int file = 0; file < 32; file++) {
-                vault.write(file, 28, version);
-            }
-            if (version < 5) {
-                vault.snapshot(version);
-            } else {
-                vault.point();
-            }
-        }
-        return vault;
-    }
-
-    static RaidVault broken() {
-        RaidVault vault = new RaidVault();
-        vault.write(5, 0, -1L);
-        vault.snapshot(3);
-        vault.write(6, 0, 7L);
-        vault.fail(2);
-        vault.fail(0);
-        return vault;
     }
 }

@@ -1,6 +1,9 @@
 import java.util.Random;
 
-/** Long runs of calls, the same ones each time, on RaidVault and on the plain model beside it. */
+/**
+ * Long runs of calls, the same ones each time, on RaidVault and on the plain model beside it. The looks at
+ * the state between them go beyond the 512 calls that the document promises for: RaidVault has no such limit.
+ */
 public final class ModelTest {
     private static final int RUNS = 240;
     private static final int CALLS = 512;
