@@ -69,10 +69,10 @@ public final class ModelTest {
         } else if (pick < 72) {
             both("point", () -> vault.point(), () -> plain.point());
         } else if (pick < 77) {
-            int k = dice.nextInt(7) - 1;
+            int k = odd(dice.nextInt(7) - 1);
             both("snapshot " + k, Expect.asCall(() -> vault.snapshot(k)), Expect.asCall(() -> plain.snapshot(k)));
         } else if (pick < 80) {
-            int k = dice.nextInt(7) - 1;
+            int k = odd(dice.nextInt(7) - 1);
             both("drop " + k, Expect.asCall(() -> vault.drop(k)), Expect.asCall(() -> plain.drop(k)));
         } else if (pick < 87) {
             crashNow();
@@ -121,14 +121,14 @@ public final class ModelTest {
         if (dice.nextInt(30) == 0) {
             at = dice.nextInt(500) - 20;
         }
-        int from = at;
+        int from = odd(at);
         long v = dice.nextInt(5) == 0 ? -1L : dice.nextLong();
         both("write " + file + " " + from, () -> vault.write(file, from, v), () -> plain.write(file, from, v));
     }
 
     private void cutSomewhere() {
         int file = someFile();
-        int n = dice.nextInt(sizeOf(file) + 3) - 1;
+        int n = odd(dice.nextInt(sizeOf(file) + 3) - 1);
         both("cut " + file + " " + n, Expect.asCall(() -> vault.cut(file, n)), Expect.asCall(() -> plain.cut(file, n)));
     }
 
@@ -138,15 +138,15 @@ public final class ModelTest {
     }
 
     private void readSomewhere() {
-        int k = dice.nextInt(8) - 2;
+        int k = odd(dice.nextInt(8) - 2);
         int file = someFile();
-        int at = dice.nextInt(60) - 2;
+        int at = odd(dice.nextInt(60) - 2);
         both("size " + k + " " + file, () -> vault.size(k, file), () -> plain.size(k, file));
         both("octet " + k + " " + file + " " + at, () -> vault.octet(k, file, at), () -> plain.octet(k, file, at));
     }
 
     private void crashNow() {
-        int n = dice.nextInt(3) == 0 ? dice.nextInt(120) : dice.nextInt(12) - 1;
+        int n = odd(dice.nextInt(3) == 0 ? dice.nextInt(120) : dice.nextInt(12) - 1);
         boolean log = dice.nextInt(4) != 0;
         both("crash " + n + " " + log, () -> vault.crash(n, log) ? 1 : 0, () -> plain.crash(n, log) ? 1 : 0);
     }
@@ -161,12 +161,12 @@ public final class ModelTest {
         } else if (pick < 9) {
             both("replace", Expect.asCall(vault::replace), Expect.asCall(plain::replace));
         } else if (pick < 15) {
-            int n = dice.nextInt(8) == 0 ? Integer.MAX_VALUE : dice.nextInt(90) - 1;
+            int n = odd(dice.nextInt(90) - 1);
             both("rebuild " + n, () -> vault.rebuild(n), () -> plain.rebuild(n));
         } else {
-            int disk = dice.nextInt(7) - 1;
-            int block = dice.nextInt(20) == 0 ? dice.nextInt(160) - 2 : dice.nextInt(30);
-            int word = dice.nextInt(6) - 1;
+            int disk = odd(dice.nextInt(7) - 1);
+            int block = odd(dice.nextInt(20) == 0 ? dice.nextInt(160) - 2 : dice.nextInt(30));
+            int word = odd(dice.nextInt(6) - 1);
             both("block " + disk + " " + block + " " + word,
                     () -> vault.block(disk, block, word), () -> plain.block(disk, block, word));
         }
@@ -175,12 +175,22 @@ public final class ModelTest {
     /** Few FILES in some styles, so that they grow long; all of them in others. */
     private int someFile() {
         if (dice.nextInt(60) == 0) {
-            return dice.nextInt(40) - 4;
+            return odd(dice.nextInt(40) - 4);
         }
         if (style == 0) {
             return dice.nextInt(3) * 15;
         }
         return style == 1 ? 31 : dice.nextInt(32);
+    }
+
+    /** Now and then a number from the ends of int instead, where sums and products wrap around. */
+    private int odd(int usual) {
+        if (dice.nextInt(40) != 0) {
+            return usual;
+        }
+        int end = dice.nextInt(3);
+        int offset = dice.nextInt(4);
+        return end == 0 ? Integer.MIN_VALUE + offset : end == 1 ? Integer.MAX_VALUE - offset : dice.nextInt();
     }
 
     private int sizeOf(int file) {

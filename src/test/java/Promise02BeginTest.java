@@ -32,8 +32,11 @@ public final class Promise02BeginTest {
     static void promise02BehindAFailedDisk(Expect expect) {
         isNewBehindBegin(expect, "with a FAILED DISK", Scene.FAILED);
         isNewBehindBegin(expect, "with a REBUILT DISK", Scene.REBUILT);
-        Scene failedAnew = Scene.FAILED.then(RaidVault::begin).then(vault -> vault.fail(1));
-        Twins.same(expect, "with another DISK FAILED behind begin()", failedAnew, vault -> vault.fail(1));
+        RaidVault vault = Scene.FAILED.then(RaidVault::begin).made();
+        expect.state("replace of what FAILED before", vault::replace);
+        expect.state("rebuild of what FAILED before", () -> vault.rebuild(1));
+        Scene failedAnew = Scene.FAILED.then(RaidVault::begin).then(v -> v.fail(1));
+        Twins.same(expect, "with another DISK FAILED behind begin()", failedAnew, v -> v.fail(1));
     }
 
     static void promise02IsNotRefusedWhenBroken(Expect expect) {
@@ -47,7 +50,10 @@ public final class Promise02BeginTest {
         Scene used = vault -> {
             Layout.grow(vault, 4, 0, 30);
             Layout.grow(vault, 31, 0, 20);
+            vault.write(6, 0, 6L);
+            vault.write(30, 0, 6L);
             vault.snapshot(4);
+            vault.write(7, 0, 7L);
             vault.begin();
         };
         Scene next = vault -> {

@@ -178,6 +178,32 @@ public final class Promise11CrashTest {
         expect.answers("the FILE that was changed", 5, () -> vault.octet(-1, 2, 7));
     }
 
+    /** Memory must not know PLACES any more that a POINT took which was not made. */
+    static void promise11WhatAPointTookThatWasNotMadeIsForgotten(Expect expect) {
+        for (int n = 0; n <= 6; n++) {
+            int most = n;
+            Scene crashed = vault -> {
+                Layout.grow(vault, 0, 0, 5);
+                vault.write(16, 0, 16L);
+                vault.point();
+                vault.write(0, 0, -1L);
+                vault.remove(16);
+                vault.write(17, 0, 17L);
+                vault.crash(most, false);
+            };
+            RaidVault vault = crashed.made();
+            vault.write(0, 32, 3L);
+            vault.write(18, 0, 18L);
+            vault.point();
+            vault.crash(0, false);
+            expect.answers("the other PIECE", Layout.octet(0, 7), () -> vault.octet(-1, 0, 7));
+            expect.answers("the PIECE that was written", 3, () -> vault.octet(-1, 0, 39));
+            expect.answers("the FILE that was removed", 16, () -> vault.octet(-1, 16, 7));
+            expect.answers("the FILE that was made", -1, () -> vault.size(-1, 17));
+            Layout.numbers(expect, vault, Layout.inode(vault, 0), 40, 1, 8);
+        }
+    }
+
     static void promise11NoPointIsBegunIfItWouldBeFull(Expect expect) {
         Scene crashed = Scene.FULL.then(v -> v.crash(Integer.MAX_VALUE, true));
         crash(expect, Scene.FULL.made(), Integer.MAX_VALUE, true, false);

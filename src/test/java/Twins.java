@@ -19,6 +19,18 @@ final class Twins {
     /** What does not show at once shows behind one of these: in the LOG, or in what a POINT writes. */
     private static final Scene[] LATER = {vault -> { }, vault -> vault.crash(0, true), RaidVault::point};
 
+    /** Each is asked of an object of its own, as it changes what it is asked of. */
+    private static final List<Question> CALLS = List.of(
+            new Question("point", RaidVault::point),
+            new Question("crash", vault -> vault.crash(2, true) ? 1 : 0),
+            new Question("rebuild", vault -> vault.rebuild(1)),
+            new Question("replace", vault -> asked(vault, RaidVault::replace)),
+            new Question("fail", vault -> asked(vault, v -> v.fail(2))),
+            new Question("write", vault -> vault.write(0, 0, 1L)),
+            new Question("remove", vault -> asked(vault, v -> v.remove(0))),
+            new Question("snapshot", vault -> asked(vault, v -> v.snapshot(0))),
+            new Question("drop", vault -> asked(vault, v -> v.drop(1))));
+
     private Twins() {
     }
 
@@ -29,6 +41,9 @@ final class Twins {
             compare(expect, what, QUESTIONS, oneLater, otherLater);
             compare(expect, what, octets(otherLater), oneLater, otherLater);
         }
+        for (Question call : CALLS) {
+            compare(expect, what, List.of(call), one, other);
+        }
     }
 
     static void refused(Expect expect, Class<?> due, String what, Scene scene, Scene call) {
@@ -36,6 +51,11 @@ final class Twins {
         String got = Expect.outcome(Expect.asCall(() -> call.play(vault)));
         expect.same(what, got, due.getName());
         same(expect, "behind the refused call of " + what, scene.then(evenIfRefused(call)), scene);
+    }
+
+    private static long asked(RaidVault vault, Scene call) {
+        call.play(vault);
+        return 0;
     }
 
     private static Scene evenIfRefused(Scene call) {
