@@ -7,6 +7,8 @@ import java.util.Random;
 public final class ModelTest {
     private static final int RUNS = 240;
     private static final int CALLS = 512;
+    /** So many writes to all FILES in turn leave few PLACES: five SNAPSHOTS of 32, and 32 more. */
+    private static final int SWEPT = 192;
 
     private final Expect expect;
     private final Random dice;
@@ -16,6 +18,7 @@ public final class ModelTest {
     private final int style;
     private int call;
     private int full;
+    private int fullWithoutADisk;
     private int sweep;
 
     private ModelTest(Expect expect, int run) {
@@ -28,13 +31,16 @@ public final class ModelTest {
     public static void main(String[] args) {
         Expect expect = new Expect();
         int full = 0;
+        int fullWithoutADisk = 0;
         for (int run = 0; run < RUNS; run++) {
             ModelTest test = new ModelTest(expect, run);
             test.play();
             full += test.full;
+            fullWithoutADisk += test.fullWithoutADisk;
         }
-        System.out.println("calls that were FULL: " + full);
-        expect.same("some runs come to FULL", full > 100 ? 1 : 0, 1);
+        System.out.println("calls that were FULL: " + full + ", with a disk not sound: " + fullWithoutADisk);
+        expect.same("some runs come to FULL", full > 1000 ? 1 : 0, 1);
+        expect.same("some of them with a disk that is not sound", fullWithoutADisk > 400 ? 1 : 0, 1);
         expect.end();
     }
 
@@ -91,27 +97,46 @@ public final class ModelTest {
             int file = call / 5;
             int at = call % 5 * 8;
             both("write", () -> vault.write(file, at, call), () -> plain.write(file, at, call));
+        } else if (call == 160 && style == 5) {
+            int disk = run / 6 % 5;
+            both("fail " + disk, Expect.asCall(() -> vault.fail(disk)), Expect.asCall(() -> plain.fail(disk)));
         } else if (pick < 86) {
-            int file = sweep++ % 32;
-            int at = 28;
-            long v = dice.nextLong();
-            both("write " + file, () -> vault.write(file, at, v), () -> plain.write(file, at, v));
-            if (sweep % 32 == 0 && sweep <= 160) {
-                int k = sweep / 32 - 1;
-                both("snapshot " + k, Expect.asCall(() -> vault.snapshot(k)), Expect.asCall(() -> plain.snapshot(k)));
-            }
-        } else if (pick < 88) {
+            sweepOn();
+        } else if (pick < 88 && style == 5) {
+            rebuildABit();
+        } else if (pick < 91 || sweep < SWEPT) {
+            readSomewhere();
+        } else if (pick < 94) {
             removeSomewhere();
-        } else if (pick < 90) {
+        } else if (pick < 96) {
+            cutSomewhere();
+        } else if (pick < 98) {
             both("point", () -> vault.point(), () -> plain.point());
-        } else if (pick < 92) {
+        } else if (pick < 99) {
             crashNow();
-        } else if (pick < 93) {
+        } else {
             int k = dice.nextInt(5);
             both("drop " + k, Expect.asCall(() -> vault.drop(k)), Expect.asCall(() -> plain.drop(k)));
-        } else {
-            readSomewhere();
         }
+    }
+
+    private void sweepOn() {
+        int file = sweep++ % 32;
+        long v = dice.nextLong();
+        both("write " + file, () -> vault.write(file, 28, v), () -> plain.write(file, 28, v));
+        if (sweep % 32 == 0 && sweep < SWEPT) {
+            int k = sweep / 32 - 1;
+            both("snapshot " + k, Expect.asCall(() -> vault.snapshot(k)), Expect.asCall(() -> plain.snapshot(k)));
+        }
+    }
+
+    /** In half of these runs the disk stays FAILED, in the others it is REBUILT in part when all is FULL. */
+    private void rebuildABit() {
+        if (run % 4 == 1) {
+            both("replace", Expect.asCall(vault::replace), Expect.asCall(plain::replace));
+        }
+        int n = dice.nextInt(20);
+        both("rebuild " + n, () -> vault.rebuild(n), () -> plain.rebuild(n));
     }
 
     private void writeSomewhere() {
@@ -228,7 +253,10 @@ public final class ModelTest {
     private String both(String what, Expect.Call ofVault, Expect.Call ofPlain) {
         String due = Expect.outcome(ofPlain);
         String got = Expect.outcome(ofVault);
-        full += due.endsWith("UnsupportedOperationException") ? 1 : 0;
+        if (due.endsWith("UnsupportedOperationException")) {
+            full++;
+            fullWithoutADisk += plain.count(4) >= 0 ? 1 : 0;
+        }
         if (!got.equals(due)) {
             System.out.println(told(what) + " gave " + got + ", due is " + due);
         }
